@@ -216,6 +216,8 @@ final class PromiseTest {
         int beyond = edge.union(edge.difference(thousand, Check.eval(edge, "abcg")), Check.eval(edge, "abcdf"));
         Check.refuses("1001 bytes", ARITHMETIC, () -> edge.write(beyond));
         Check.same("byte 999 is kept", edge.outputByte(999), (int) 'j');
+        int small = edge.union(edge.difference(less, Check.eval(edge, "abcf")), Check.eval(edge, "1 + a + b"));
+        Check.same("1000 bytes with small sets", edge.write(small), 1000);
     }
 
     // Promises 8 and 9
