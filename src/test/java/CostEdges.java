@@ -99,7 +99,8 @@ final class CostEdges {
             Check.same("least", store("abl", 5, -700, 1000).leastCost(0), 305));
         Check.test(method + "negative costs are less", () ->
             Check.same("least", store("1 + a + ab + l", -3, -4, 5).leastCost(0), -7));
-        Check.test(method + "the dearest set that can be", () -> Check.same("least", allCost(1000).leastCost(0), 12000));
+        Check.test(method + "the dearest set that can be", () ->
+            Check.same("least", allCost(1000).leastCost(0), 12000));
         Check.test(method + "the cheapest set that can be", () ->
             Check.same("least", allCost(-1000).leastCost(0), -12000));
         isEmpty("promise 38 leastCost", FamilyStore::leastCost);
