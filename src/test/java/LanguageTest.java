@@ -114,7 +114,8 @@ final class LanguageTest {
                 Check.same("line " + (i + 1) + " has no " + banned, code.contains(banned), false);
             }
             Check.same("line " + (i + 1) + " is ASCII", line.chars().allMatch(sign -> sign < 127), true);
-            if (methodStart < 0 && line.matches("( {4}| {8})[a-z].*\\(.*\\{") || line.matches("( {4}| {8})(public|private|static) .*\\)$")) {
+            if (methodStart < 0 && line.matches("( {4}| {8})[a-z].*\\(.*\\{")
+                    || line.matches("( {4}| {8})(public|private|static) .*\\)$")) {
                 methodStart = i;
                 indent = line.replaceAll("\\S.*", "");
             } else if (methodStart >= 0 && line.equals(indent + "}")) {
